@@ -21,6 +21,7 @@ public final class BeginningsFilter {
     /** An edge leads to a leaf or to a node that is not the first. */
     private static final int EDGE_ROOM = NODE_ROOM + MOST_KEYS;
     private static final int TAPE_ROOM = 160;
+    private static final int FED_AT_ONCE = 20;
     private static final int TEXT_ROOM = 128;
 
     private static final int HASHED = 0;
@@ -84,7 +85,7 @@ public final class BeginningsFilter {
     // ---- the tape ----
 
     public int feed(int a, int b, int c, int d, int e) {
-        if (tape.count + 20 > TAPE_ROOM) {
+        if (tape.count + FED_AT_ONCE > TAPE_ROOM) {
             return NONE;
         }
         tape.putFour(a);

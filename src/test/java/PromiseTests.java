@@ -258,6 +258,8 @@ public final class PromiseTests {
     due("salt", x.set(5, Integer.MAX_VALUE), true);
     due("what 6", x.set(6, 1), false);
     due("what -1", x.set(-1, 1), false);
+    due("what 6, v -1", x.set(6, -1), false);
+    due("what -1, v -1", x.set(-1, -1), false);
     due("what least", x.set(Integer.MIN_VALUE, 1), false);
   }
 
@@ -802,6 +804,10 @@ public final class PromiseTests {
     x.build();
     x.stormRange(20, 1, 255);
     due("up to 255 at most", x.account(4), 20);
+    x.stormRange(200, 8, 0);
+    due("200, of 8 bytes, by 0", x.account(3), 220);
+    x.stormRange(1, 1, 0);
+    due("one", x.account(3), 221);
   }
 
   private void p41() {
