@@ -4,16 +4,15 @@ import java.lang.management.ManagementFactory;
 public final class RoomTests {
   public static void main(String[] args) {
     com.sun.management.ThreadMXBean bean = (com.sun.management.ThreadMXBean) ManagementFactory.getThreadMXBean();
-    long id = Thread.currentThread().getId();
     use(new BeginningsFilter());
-    long before = bean.getThreadAllocatedBytes(id);
+    long before = bean.getCurrentThreadAllocatedBytes();
     BeginningsFilter x = new BeginningsFilter();
-    long made = bean.getThreadAllocatedBytes(id) - before;
-    before = bean.getThreadAllocatedBytes(id);
-    long idle = bean.getThreadAllocatedBytes(id) - before;
-    before = bean.getThreadAllocatedBytes(id);
+    long made = bean.getCurrentThreadAllocatedBytes() - before;
+    before = bean.getCurrentThreadAllocatedBytes();
+    long idle = bean.getCurrentThreadAllocatedBytes() - before;
+    before = bean.getCurrentThreadAllocatedBytes();
     use(x);
-    long used = bean.getThreadAllocatedBytes(id) - before - idle;
+    long used = bean.getCurrentThreadAllocatedBytes() - before - idle;
     boolean fits = made < 40000 && used < 1000;
     System.out.println("RoomTests: " + made + " bytes made by the constructor, " + used + " by calls"
         + (fits ? "" : ": too much"));
