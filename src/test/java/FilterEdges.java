@@ -93,6 +93,8 @@ public final class FilterEdges extends Bench {
     due("but the first", holds(x, "c\100\0", last), 0);
     due("but the last", holds(x, first, "c\177\377\377\377\377\377\376"), 0);
     due("but the last by a byte less", holds(x, first, "c\177\377\377\377\377\377"), 0);
+    due("but the first and the last", holds(x, "c\101", "c\102"), 0);
+    due("nor by one key inside", holds(x, "c\101", "c\101"), 0);
     due("e alone", holds(x, "e", "e"), 1);
     due("of e 0 not all", holds(x, "e", "e\0"), 1);
     due("of e 0 all", holds(x, "e", "e\0\77\377\377\377\377\377"), 2);
@@ -181,6 +183,10 @@ public final class FilterEdges extends Bench {
     due("all 256 of seven bytes", spread(x, "zzzzzzz", 0), 256);
     due("what 3", spread(x, "z", 3), NONE);
     due("what -1", spread(x, "z", -1), NONE);
+    x = built("z", ALL_255);
+    due("256 beside other keys", spread(x, "z", 0), 256);
+    due("none beside other keys", spread(x, "y", 0), 0);
+    due("255 with all of 255", spread(x, "\377\377\377\377\377\377\377", 1), 255);
     x = built("real", new int[] {8, 8, 0}, "a\377", "b");
     due("the byte 255 alone", spread(x, "a", 0), 1);
     due("it is there", spread(x, "a", 1), 0);

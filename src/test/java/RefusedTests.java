@@ -363,24 +363,30 @@ public final class RefusedTests {
     for (String k : new String[] {"ab", "abc", "b", "bcd", "bce", "c"}) put(all, "add " + k, x -> Bench.add(x, k));
     for (String k : new String[] {"a", "abcd", "bc", "d"}) put(all, "remove " + k, x -> Bench.remove(x, k));
     put(all, "add what is there, by other bytes behind it", x -> x.add(0x6162ffff, -1, 2));
-    put(all, "leaf(5", x -> x.leaf(5, 0));
-    put(all, "leafAt(5", x -> x.leafAt(5));
-    put(all, "node(4", x -> x.node(4, 0));
-    put(all, "child(4", x -> x.child(4, 97));
+    for (int i = 0; i < 3; i++) behindAll(all, i);
     put(all, "child(0, 256", x -> x.child(0, 256));
     put(all, "child(0, -1", x -> x.child(0, -1));
-    put(all, "level(3", x -> x.level(3, 0));
-    put(all, "item(6", x -> x.item(6, 0));
-    put(all, "bit(6", x -> x.bit(6));
-    put(all, "rank(7", x -> x.rank(7));
-    put(all, "select(3", x -> x.select(3));
-    put(all, "free(6", x -> x.free(6, 1));
-    put(all, "report(5", x -> x.report(5));
     put(all, "leafOf c", x -> Bench.leafOf(x, "c"));
     put(all, "seek c", x -> Bench.seek(x, "c"));
     put(all, "seekBack A", x -> Bench.seekBack(x, "A"));
-    refuse(all, "end(6", x -> x.end(6) ? 1 : 0);
     return all;
+  }
+
+  /** One, two, three behind the last of all that an ordinary object has. */
+  private static void behindAll(List<Refused> all, int i) {
+    put(all, "leaf(5 + " + i, x -> x.leaf(5 + i, 0));
+    put(all, "leafAt(5 + " + i, x -> x.leafAt(5 + i));
+    put(all, "node(4 + " + i, x -> x.node(4 + i, 0));
+    put(all, "child(4 + " + i, x -> x.child(4 + i, 97));
+    put(all, "level(3 + " + i, x -> x.level(3 + i, 0));
+    put(all, "item(6 + " + i, x -> x.item(6 + i, 0));
+    put(all, "bit(6 + " + i, x -> x.bit(6 + i));
+    put(all, "rank(7 + " + i, x -> x.rank(7 + i));
+    put(all, "select(3 + " + i, x -> x.select(3 + i));
+    put(all, "free(6 + " + i, x -> x.free(6 + i, 1));
+    put(all, "report(5 + " + i, x -> x.report(5 + i));
+    put(all, "sign behind + " + i, x -> x.sign(Bench.latest(x).length() + i));
+    refuse(all, "end(6 + " + i, x -> x.end(6 + i) ? 1 : 0);
   }
 
   private static List<Refused> ofFull() {

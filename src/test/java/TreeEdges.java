@@ -139,6 +139,12 @@ public final class TreeEdges extends Bench {
     due("node -1", x.child(-1, 0), NONE);
     due("byte least", x.child(0, LEAST), NONE);
     due("byte most", x.child(0, MOST), NONE);
+    x = built("a1", "a2", "b3", "b4");
+    for (int octet = '1'; octet <= '4'; octet++) {
+      due("not of the first node", x.child(0, octet), -3);
+      due("of the node of a", x.child(1, octet), octet <= '2' ? -2 : -3);
+      due("of the node of b", x.child(2, octet), octet <= '2' ? -3 : -2);
+    }
   }
 
   /** 32 pairs of eight bytes that differ at the first and, within a pair, at the last byte. */
