@@ -214,13 +214,13 @@ public final class FilterEdges extends Bench {
   // The one key is k A; its leaf's beginning is k, so A (41) is the byte behind it.
   private static final String OWN = "kA";
 
-  /** A question with so many bits of hash alike (8: or more), and that byte behind the beginning. */
+  /** A question with just so many bits of hash alike, and that byte behind the beginning. */
   private static String like(int hashBits, int next) {
     for (int i = 0; i < 1 << 20; i++) {
       String k = key('k', next, i >> 16, i >> 8 & 255, i & 255);
       long differing = hash(0, k) ^ hash(0, OWN);
       int alike = 0;
-      while (alike < 8 && (differing >> alike & 1) == 0) alike++;
+      while (alike < 9 && (differing >> alike & 1) == 0) alike++;
       if (alike == hashBits) return k;
     }
     return "";
@@ -277,6 +277,14 @@ public final class FilterEdges extends Bench {
     x.forget();
     question(x, like(0, 'A'));
     tuned(x, 1, 1, 0, 0);
+    x.forget();
+    question(x, like(1, '@'));
+    tuned(x, 1, 0, 0, 1);
+    for (int w : new int[] {2, 7, 8, 9, 16}) tuned(x, w, 2, 0, 0);
+    x.forget();
+    question(x, like(1, '\1'));
+    tuned(x, 1, 0, 0, 1);
+    for (int w : new int[] {2, 3, 16}) tuned(x, w, 0, 2, 0);
     x.forget();
     question(x, like(1, '\101'));
     question(x, like(8, '\1'));
@@ -362,6 +370,16 @@ public final class FilterEdges extends Bench {
       }
     }
     for (int w = 0; w < 20; w++) stormOfBytes(w);
+    BeginningsFilter x = built("\0\1");
+    x.set(4, 1);
+    may(x, "\0");
+    range(x, "\0", "\0");
+    due("its own alone", x.storm(3, 1), 3);
+    due("its own alone", x.storm(2, 1), 2);
+    due("its own alone", x.stormRange(4, 1, 0), 4);
+    due("its own alone", x.stormRange(1, 1, 0), 1);
+    due("all together", x.account(2), 6);
+    due("all together", x.account(5), 6);
   }
 
   /** Every seventh byte begins a key of two, so that a range that ends one byte off meets more or fewer. */
@@ -450,6 +468,11 @@ public final class FilterEdges extends Bench {
       y.set(4, 256);
       y.state(stateThatDraws255());
       due("not round to 0 by " + w, y.stormRange(1, 1, w), 0);
+      due("none", y.account(4), 0);
+      y = built("\377\5", "\377\6");
+      y.set(4, 256);
+      y.state(stateThatDraws255());
+      due("nor to what is behind 255 by " + w, y.stormRange(1, 1, w), 0);
       due("none", y.account(4), 0);
     }
   }

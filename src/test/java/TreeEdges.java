@@ -403,6 +403,8 @@ public final class TreeEdges extends Bench {
     oneRow(x, "marks", 5, new int[] {0}, new int[] {1, 2, 3, 4});
     oneRow(x, "lower", 5, new int[0], new int[] {0, 1, 2, 3, 4});
     oneRow(x, "firsts", 5, new int[] {0, 3}, new int[] {1, 2, 4});
+    oneRow(x, "kids", 256, new int[] {0, 255}, new int[] {1, 128, 254});
+    oneRow(x, "labels", 256, new int[] {0, 128, 255}, new int[] {1, 127, 129, 254});
     oneRow(built(), "labels", 0, new int[0], new int[0]);
     x = built("none", new int[] {4, 4, 0}, "q");
     oneRow(x, "firsts", 1, new int[] {0}, new int[0]);
