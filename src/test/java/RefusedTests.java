@@ -106,7 +106,7 @@ public final class RefusedTests {
   }
 
   /** An image of an older moment, a filter that is not of the set, and something of all that can be there. */
-  private static void ordinary(BeginningsFilter x) {
+  static void ordinary(BeginningsFilter x) {
     for (String k : new String[] {"a", "ab", "abc", "b", "bcd"}) Bench.add(x, k);
     int[] told = {8, 3, 1, 2, 5, 77};
     for (int i = 0; i < told.length; i++) x.set(i, told[i]);
@@ -129,7 +129,7 @@ public final class RefusedTests {
     Bench.tape(x, "\1p\2qr");
   }
 
-  private static void full(BeginningsFilter x) {
+  static void full(BeginningsFilter x) {
     for (int i = 0; i < 64; i++) x.add(i << 24, 0, 1 + i % 2);
     x.set(0, 8);
     x.set(1, 8);
@@ -144,7 +144,7 @@ public final class RefusedTests {
     Bench.tape(x, tape.toString());
   }
 
-  private static void emptied(BeginningsFilter x) {
+  static void emptied(BeginningsFilter x) {
     Bench.add(x, "a");
     x.build();
     Bench.remove(x, "a");
